@@ -880,6 +880,7 @@ public final class NeighbourBoard {
         private static final int COLUMNS = MOST_SEEN;
 
         private final Whole[] cells = new Whole[ROWS * COLUMNS];
+        private final Whole outside = new Whole();
         private final Whole bottom = new Whole();
         private final Whole product = new Whole();
         private final Whole otherProduct = new Whole();
@@ -891,11 +892,10 @@ public final class NeighbourBoard {
             }
         }
 
-        /** A row or column that is not there is taken for the nearest one that is. */
+        /** The cell outside stands for all that are not there; nothing depends on what it has. */
         Whole cell(int row, int column) {
-            int r = Math.max(0, Math.min(row, ROWS - 1));
-            int c = Math.max(0, Math.min(column, COLUMNS - 1));
-            return cells[r * COLUMNS + c];
+            boolean there = row >= 0 && row < ROWS && column >= 0 && column < COLUMNS;
+            return there ? cells[row * COLUMNS + column] : outside;
         }
 
         void put(int row, int column, long value) {
@@ -971,15 +971,24 @@ public final class NeighbourBoard {
          */
         private void clearColumn(int k, int firstRow, int rows, int columns) {
             Whole pivot = cell(k, k);
+            long by = bottom.lowest();
             for (int row = firstRow; row < rows; row++) {
                 if (row == k) {
                     continue;
                 }
                 Whole lead = cell(row, k);
+                boolean small = by != 0 && bottom.size < 2 && pivot.size < 2 && lead.size < 2;
                 for (int column = k + 1; column < columns; column++) {
                     Whole at = cell(row, column);
+                    Whole above = cell(k, column);
+                    if (small && at.size < 2 && above.size < 2) {
+                        // Most cells come by here; products of two parts have 18 digits at most.
+                        long value = pivot.lowest() * at.lowest() - lead.lowest() * above.lowest();
+                        at.put(value / by);
+                        continue;
+                    }
                     product.multiply(pivot, at);
-                    otherProduct.multiply(lead, cell(k, column));
+                    otherProduct.multiply(lead, above);
                     product.addTimes(otherProduct, -1);
                     divider.divide(product, bottom, at);
                 }
@@ -1096,8 +1105,9 @@ public final class NeighbourBoard {
 
     /**
      * A whole number in parts of nine digits, the lowest first; parts from size on are 0. The largest
-     * that any run can need are the products by which two fractions are compared, and these have
-     * fewer than 80 digits.
+     * that any run can need are products of two determinants, one of seven rows (below 10^35) and one
+     * of six (below 10^31), and the products by which two fractions are compared are smaller; so they
+     * fit with room to spare.
      */
     private static final class Whole {
         private static final int MOST_PARTS = 12;
@@ -1117,8 +1127,14 @@ public final class NeighbourBoard {
             trim(3, Long.signum(value));
         }
 
+        /** The lowest part with the sign: the number itself, if it has no more parts than one. */
+        long lowest() {
+            return (long) sign * parts[0];
+        }
+
         void copyFrom(Whole other) {
-            for (int i = 0; i < MOST_PARTS && i < Math.max(size, other.size); i++) {
+            int length = Math.max(size, other.size);
+            for (int i = 0; i < length && i < MOST_PARTS; i++) {
                 parts[i] = other.parts[i];
             }
             size = other.size;
@@ -1190,7 +1206,7 @@ public final class NeighbourBoard {
         }
 
         private void trim(int length, int signIfAny) {
-            size = Math.max(0, Math.min(length, MOST_PARTS));
+            size = length < 0 ? 0 : length > MOST_PARTS ? MOST_PARTS : length;
             while (size > 0 && parts[size - 1] == 0) {
                 size--;
             }
@@ -1198,7 +1214,10 @@ public final class NeighbourBoard {
         }
     }
 
-    /** Long division; both numbers are scaled so that the first guess of a part is off by 2 at most. */
+    /**
+     * Long division. By two parts or more both numbers are scaled first, so that what is guessed for
+     * a part of the quotient is too high by 2 at most.
+     */
     private static final class Divider {
         private static final int MOST_FIXES = 3;
 
@@ -1209,18 +1228,19 @@ public final class NeighbourBoard {
 
         /** The quotient may be the top itself. A bottom of 0 gives 0. */
         void divide(Whole top, Whole bottom, Whole quotient) {
-            int topSize = top.size;
+            int last = top.size - bottom.size;
             int sign = top.sign * bottom.sign;
             length = bottom.size;
-            if (length == 0) {
-                quotient.put(0);
+            if (length < 2) {
+                divideByPart(top, bottom.parts[0], quotient);
+                quotient.trim(top.size, sign);
                 return;
             }
             scale = Whole.BASE / (bottom.parts[length - 1] + 1L);
-            copyScaled(top, rest, Math.max(topSize, length) + 1);
+            copyScaled(top, rest, Math.max(top.size, length) + 1);
             copyScaled(bottom, by, length + 1);
             quotient.clear();
-            for (int at = topSize - length; at >= 0; at--) {
+            for (int at = last; at >= 0; at--) {
                 long part = guessPart(at);
                 if (takeAway(at, part)) {
                     part--;
@@ -1228,7 +1248,7 @@ public final class NeighbourBoard {
                 }
                 quotient.parts[at] = (int) part;
             }
-            quotient.trim(topSize - length + 1, sign);
+            quotient.trim(last + 1, sign);
         }
 
         /** What the last division left, without its sign. */
@@ -1237,10 +1257,24 @@ public final class NeighbourBoard {
             long carry = 0;
             for (int i = length - 1; i >= 0 && scale > 0; i--) {
                 long value = carry * Whole.BASE + rest[i];
-                into.parts[i] = (int) (value / scale);
-                carry = value % scale;
+                long part = value / scale;
+                into.parts[i] = (int) part;
+                carry = value - part * scale;
             }
             into.trim(length, 1);
+        }
+
+        private void divideByPart(Whole top, long divisor, Whole quotient) {
+            long carry = 0;
+            // The quotient's own size counts too: its old parts must not stay above.
+            for (int i = Math.max(top.size, quotient.size) - 1; i >= 0; i--) {
+                long value = carry * Whole.BASE + top.parts[i];
+                long part = divisor > 0 ? value / divisor : 0;
+                quotient.parts[i] = (int) part;
+                carry = divisor > 0 ? value - part * divisor : 0;
+            }
+            scale = 1;
+            rest[0] = (int) carry;
         }
 
         private void copyScaled(Whole number, int[] into, int many) {
@@ -1259,12 +1293,11 @@ public final class NeighbourBoard {
                 return 0;
             }
             long two = rest[high] * Whole.BASE + rest[high - 1];
-            long next = length > 1 ? by[length - 2] : 0;
-            long below = high > 1 ? rest[high - 2] : 0;
             long guess = two / lead;
-            long left = two % lead;
+            long left = two - guess * lead;
             for (int fix = 0; fix < MOST_FIXES && left < Whole.BASE; fix++) {
-                if (guess < Whole.BASE && guess * next <= left * Whole.BASE + below) {
+                if (guess < Whole.BASE
+                        && guess * by[length - 2] <= left * Whole.BASE + rest[high - 2]) {
                     break;
                 }
                 guess--;

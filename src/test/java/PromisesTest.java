@@ -789,9 +789,11 @@ public final class PromisesTest {
         b.drop(2);
         due("21: of two", b.allowed(0), 2);
         due("21: of two, all alike", b.allowed(3), 1);
+        b.drop(0);
+        b.drop(0);
+        b.see(0, 0, 1, 100);
         b.see(3, 3, 0, 100);
         due("21: DOUBTS do not matter", b.allowed(3), 1);
-        b.drop(0);
         b.drop(0);
         due("21: of one", b.allowed(3), 2);
         b.drop(0);
