@@ -85,10 +85,11 @@ public final class WholeNumbersTest {
         for (int i = from.length - 1; i >= 0; i--) {
             value = value.multiply(BIG_BASE).add(BigInteger.valueOf(from[i]));
         }
-        boolean trimmed = many == 0 || from[many - 1] != 0;
-        for (int i = many; i < from.length; i++) trimmed &= from[i] == 0;
+        boolean neat = many == 0 || from[many - 1] != 0;
+        for (int i = many; i < from.length; i++) neat &= from[i] == 0;
+        for (int part : from) neat &= part >= 0 && part < BASE;
         if (sign.getInt(whole) < 0) value = value.negate();
-        if (!trimmed || value.signum() != sign.getInt(whole) || !value.equals(want)) {
+        if (!neat || value.signum() != sign.getInt(whole) || !value.equals(want)) {
             wrong++;
             if (wrong < 20) System.out.println(call + " gave " + value + ", due is " + want);
         }
