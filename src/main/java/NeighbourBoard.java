@@ -1105,7 +1105,7 @@ public final class NeighbourBoard {
 
     /**
      * A whole number in parts of nine digits, the lowest first; parts from size on are 0. The largest
-     * that any run can need are products of two determinants, one of seven rows (below 10^35) and one
+     * that any run can need are products of two determinants, one of seven rows (below 10^36) and one
      * of six (below 10^31), and the products by which two fractions are compared are smaller; so they
      * fit with room to spare.
      */
